@@ -1,0 +1,228 @@
+/** Promises 1 to 6: a new object, packet, tick, flush, sampler, ended. */
+public final class WatchTest {
+    public static void main(String[] args) {
+        aNewObjectIsEmpty();
+        packetsOfOneKeyAreOneFlow();
+        packetRefusesWrongParts();
+        packetStopsAtTwentyFlows();
+        theSeventhFlowPutsOneOut();
+        ticksEndIdleFlows();
+        ticksEndOldFlows();
+        idleGoesBeforeOld();
+        tickRefusesWrongNumbers();
+        flushEndsAllInOrder();
+        samplerTakesEveryNth();
+        endedRefusesWrongIndices();
+        Checks.close();
+    }
+
+    private static void aNewObjectIsEmpty() {
+        FlowShelf x = new FlowShelf();
+        for (int e = 0; e < 2; e++) {
+            Checks.due("new: counts of " + e, "0 0 0 0 0 0 0 0 0 0", Checks.counts(x, e));
+            int exporter = e;
+            Checks.index("new: ended", () -> x.ended(exporter, 0, 0));
+            Checks.state("new: seal", () -> x.seal(exporter, 0));
+            Checks.state("new: withdraw", () -> x.withdraw(exporter, 0));
+            Checks.state("new: announce", () -> x.announce(exporter, 0));
+            Checks.state("new: report", () -> x.report(exporter));
+            Checks.due("new: first packet", true, x.packet(e, 1, 1, 1, 1, false));
+            Checks.due("new: sampler of 1", true, x.packet(e, 1, 1, 1, 1, false));
+        }
+        Checks.due("new: rows", 0, x.rows());
+        Checks.due("new: size", -1, x.size(0));
+        Checks.index("new: hear", () -> x.hear(0));
+        Checks.due("new: total", 0, x.total(0, 0, 0, 0));
+    }
+
+    private static void packetsOfOneKeyAreOneFlow() {
+        FlowShelf x = new FlowShelf();
+        x.tick(0, 3);
+        Checks.due("packet", true, x.packet(0, 255, 0, 7, 9999, false));
+        x.tick(0, 4);
+        x.packet(0, 255, 0, 7, 0, false);
+        x.packet(0, 255, 0, 8, 5, false);
+        x.packet(0, 255, 1, 7, 6, false);
+        x.packet(0, 254, 0, 7, 7, false);
+        x.packet(1, 255, 0, 7, 8, true);
+        Checks.due("flows by key", 4, x.count(0, 2));
+        x.tick(0, 1);
+        x.packet(0, 255, 0, 7, 2, true);
+        Checks.due("the finished flow", "255 0 7 10001 3 3 8 3", Checks.flow(x, 0, 0));
+        Checks.due("cache behind the finish", 3, x.count(0, 2));
+        Checks.due("the other exporter's flow", "255 0 7 8 1 0 0 3", Checks.flow(x, 1, 0));
+        x.packet(0, 255, 0, 7, 1, true);
+        Checks.due("a finished key begins anew", "255 0 7 1 1 8 8 3", Checks.flow(x, 0, 1));
+    }
+
+    private static void packetRefusesWrongParts() {
+        FlowShelf x = new FlowShelf();
+        Checks.argument("exporter -1", () -> x.packet(-1, 0, 0, 0, 0, false));
+        Checks.argument("exporter 2", () -> x.packet(2, 0, 0, 0, 0, false));
+        Checks.argument("source -1", () -> x.packet(0, -1, 0, 0, 0, false));
+        Checks.argument("source 256", () -> x.packet(0, 256, 0, 0, 0, false));
+        Checks.argument("target -1", () -> x.packet(0, 0, -1, 0, 0, false));
+        Checks.argument("target 256", () -> x.packet(0, 0, 256, 0, 0, false));
+        Checks.argument("service -1", () -> x.packet(0, 0, 0, -1, 0, false));
+        Checks.argument("service 256", () -> x.packet(0, 0, 0, 256, 0, false));
+        Checks.argument("bytes -1", () -> x.packet(0, 0, 0, 0, -1, false));
+        Checks.argument("bytes 10000", () -> x.packet(0, 0, 0, 0, 10000, false));
+        Checks.due("no flow of a refused packet", 0, x.count(0, 2));
+        x.sampler(0, 2);
+        Checks.argument("bytes 10000 under a sampler", () -> x.packet(0, 0, 0, 0, 10000, false));
+        Checks.due("a refused packet does not count", true, x.packet(0, 0, 0, 0, 0, false));
+        Checks.argument("not sampled and wrong", () -> x.packet(0, 0, 0, 0, 10000, false));
+        Checks.due("the edges", true, new FlowShelf().packet(1, 255, 255, 255, 9999, true));
+    }
+
+    private static void packetStopsAtTwentyFlows() {
+        FlowShelf x = new FlowShelf();
+        Checks.finished(x, 0, 17);
+        x.packet(0, 1, 1, 1, 1, false);
+        x.packet(0, 2, 1, 1, 1, false);
+        x.sampler(0, 3);
+        Checks.due("with 19", true, x.packet(0, 3, 1, 1, 1, false));
+        Checks.state("with 20, of a known key", () -> x.packet(0, 3, 1, 1, 1, false));
+        Checks.state("with 20, not sampled", () -> x.packet(0, 9, 1, 1, 1, false));
+        Checks.argument("with 20, wrong", () -> x.packet(0, 9, 1, 256, 1, false));
+        Checks.due("the other exporter", true, x.packet(1, 3, 1, 1, 1, false));
+        Checks.template(x, 0, 0, 0, 1);
+        x.report(0);
+        Checks.due("the counter stayed 1", false, x.packet(0, 3, 1, 1, 1, false));
+        Checks.due("the counter is 2", false, x.packet(0, 3, 1, 1, 1, false));
+        Checks.due("the counter is 0", true, x.packet(0, 3, 1, 1, 1, false));
+    }
+
+    private static void theSeventhFlowPutsOneOut() {
+        FlowShelf x = new FlowShelf();
+        for (int i = 0; i < 6; i++) {
+            x.packet(0, i, 0, 0, i, false);
+        }
+        x.tick(0, 1);
+        x.packet(0, 0, 0, 0, 1, false);
+        x.packet(0, 2, 0, 0, 1, false);
+        x.packet(0, 6, 0, 0, 1, false);
+        Checks.due("put out: the first of the oldest", "1 0 0 1 1 0 1 4", Checks.flow(x, 0, 0));
+        x.packet(0, 7, 0, 0, 1, true);
+        Checks.due("put out before a finish", "3 0 0 3 1 0 1 4", Checks.flow(x, 0, 1));
+        Checks.due("the finish behind it", "7 0 0 1 1 1 1 3", Checks.flow(x, 0, 2));
+        Checks.due("5 are left", 5, x.count(0, 2));
+        x.packet(0, 8, 0, 0, 1, false);
+        Checks.due("the sixth puts none out", 3, x.count(0, 3));
+        x.packet(0, 0, 0, 0, 1, false);
+        Checks.due("a known key puts none out", 3, x.count(0, 3));
+    }
+
+    private static void ticksEndIdleFlows() {
+        FlowShelf x = new FlowShelf();
+        x.packet(0, 1, 0, 0, 1, false);
+        x.packet(0, 2, 0, 0, 1, false);
+        Checks.due("5 ticks", 0, x.tick(0, 5));
+        x.packet(0, 1, 0, 0, 1, false);
+        Checks.due("9 ticks more", 0, x.tick(0, 9));
+        Checks.due("the 15th", 1, x.tick(0, 1));
+        Checks.due("idle", "2 0 0 1 1 0 15 1", Checks.flow(x, 0, 0));
+        Checks.due("100 ticks", 1, x.tick(0, 100));
+        Checks.due("idle at its own tick", "1 0 0 2 2 0 20 1", Checks.flow(x, 0, 1));
+        Checks.due("clock", 115, x.count(0, 0));
+        Checks.due("the other clock", 0, x.count(1, 0));
+    }
+
+    private static void ticksEndOldFlows() {
+        FlowShelf x = new FlowShelf();
+        x.tick(1, 7);
+        x.packet(1, 1, 0, 0, 1, false);
+        for (int i = 0; i < 4; i++) {
+            x.tick(1, 14);
+            x.packet(1, 1, 0, 0, 1, false);
+        }
+        Checks.due("59 ticks", 0, x.tick(1, 3));
+        Checks.due("60 ticks", 1, x.tick(1, 1));
+        Checks.due("old", "1 0 0 5 5 7 67 2", Checks.flow(x, 1, 0));
+    }
+
+    private static void idleGoesBeforeOld() {
+        FlowShelf x = new FlowShelf();
+        x.packet(0, 1, 0, 0, 1, false);
+        x.packet(0, 2, 0, 0, 1, false);
+        for (int i = 0; i < 3; i++) {
+            x.tick(0, 14);
+            x.packet(0, 1, 0, 0, 1, false);
+            x.packet(0, 2, 0, 0, 1, false);
+        }
+        x.tick(0, 3);
+        x.packet(0, 1, 0, 0, 1, false);
+        x.packet(0, 2, 0, 0, 1, false);
+        x.packet(0, 3, 0, 0, 1, false);
+        x.tick(0, 1);
+        x.packet(0, 2, 0, 0, 1, false);
+        Checks.due("both end and one more", 3, x.tick(0, 14));
+        Checks.due("15 and 60 ticks ago is idle", "1 0 0 5 5 0 60 1", Checks.flow(x, 0, 0));
+        Checks.due("14 and 60 ticks ago is old", "2 0 0 6 6 0 60 2", Checks.flow(x, 0, 1));
+        Checks.due("in the cache's order", "3 0 0 1 1 45 60 1", Checks.flow(x, 0, 2));
+    }
+
+    private static void tickRefusesWrongNumbers() {
+        FlowShelf x = new FlowShelf();
+        Checks.argument("tick of 2", () -> x.tick(2, 1));
+        Checks.argument("tick of -1", () -> x.tick(-1, 1));
+        Checks.argument("0 ticks", () -> x.tick(0, 0));
+        Checks.argument("-1 ticks", () -> x.tick(0, -1));
+        Checks.argument("101 ticks", () -> x.tick(0, 101));
+        Checks.due("no tick went", 0, x.count(0, 0));
+    }
+
+    private static void flushEndsAllInOrder() {
+        FlowShelf x = new FlowShelf();
+        Checks.due("nothing to flush", 0, x.flush(0));
+        x.packet(0, 4, 0, 0, 1, false);
+        x.packet(0, 1, 0, 0, 1, false);
+        x.packet(1, 9, 0, 0, 1, false);
+        x.tick(0, 2);
+        x.packet(0, 4, 0, 0, 1, false);
+        Checks.due("flush", 2, x.flush(0));
+        Checks.due("flushed first", "4 0 0 2 2 0 2 5", Checks.flow(x, 0, 0));
+        Checks.due("flushed second", "1 0 0 1 1 0 2 5", Checks.flow(x, 0, 1));
+        Checks.due("cache", 0, x.count(0, 2));
+        Checks.due("the other cache", 1, x.count(1, 2));
+        Checks.argument("flush of 2", () -> x.flush(2));
+        Checks.argument("flush of -1", () -> x.flush(-1));
+    }
+
+    private static void samplerTakesEveryNth() {
+        FlowShelf x = new FlowShelf();
+        x.sampler(0, 3);
+        for (int i = 0; i < 9; i++) {
+            Checks.due("of three, packet " + i, i % 3 == 0, x.packet(0, 1, 1, 1, 10, i == 8));
+        }
+        Checks.due("not sampled, not finished", 0, x.count(0, 3));
+        Checks.due("the other's sampler", true, x.packet(1, 1, 1, 1, 1, false));
+        Checks.due("and again", true, x.packet(1, 1, 1, 1, 1, false));
+        x.packet(0, 1, 1, 1, 10, false);
+        x.sampler(0, 9);
+        for (int i = 0; i < 10; i++) {
+            Checks.due("of nine, packet " + i, i % 9 == 0, x.packet(0, 1, 1, 1, 10, false));
+        }
+        x.flush(0);
+        Checks.due("only the sampled ones count", "1 1 1 60 6 0 0 5", Checks.flow(x, 0, 0));
+        Checks.argument("sampler 0", () -> x.sampler(0, 0));
+        Checks.argument("sampler 10", () -> x.sampler(0, 10));
+        Checks.argument("sampler -1", () -> x.sampler(0, -1));
+        Checks.argument("sampler of 2", () -> x.sampler(2, 1));
+        Checks.argument("sampler of -1", () -> x.sampler(-1, 1));
+        Checks.due("a refused one changes nothing", false, x.packet(0, 1, 1, 1, 1, false));
+    }
+
+    private static void endedRefusesWrongIndices() {
+        FlowShelf x = new FlowShelf();
+        Checks.finished(x, 0, 1);
+        Checks.argument("ended of 2", () -> x.ended(2, 0, 0));
+        Checks.argument("ended of -1", () -> x.ended(-1, 0, 0));
+        Checks.argument("ended, field 8", () -> x.ended(0, 0, 8));
+        Checks.argument("ended, field -1", () -> x.ended(0, 0, -1));
+        Checks.argument("ended, neither", () -> x.ended(0, 1, 8));
+        Checks.index("ended 1 of 1", () -> x.ended(0, 1, 7));
+        Checks.index("ended -1", () -> x.ended(0, -1, 0));
+        Checks.index("ended of the other", () -> x.ended(1, 0, 0));
+    }
+}
