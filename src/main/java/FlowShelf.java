@@ -33,7 +33,10 @@ public final class FlowShelf {
     private static final int SOURCE = 0;
     private static final int TARGET = 1;
     private static final int SERVICE = 2;
+    private static final int BYTES = 3;
+    private static final int PACKETS = 4;
     private static final int BEGAN = 5;
+    private static final int ENDED = 6;
     private static final int ROW_EXPORTER = 8;
 
     private static final int REPORT_ROOM = 30;
@@ -356,8 +359,6 @@ public final class FlowShelf {
             this.target = target;
             this.service = service;
             began = clock;
-            latest = clock;
-            reason = NOT_ENDED;
         }
 
         boolean hasKey(int itsSource, int itsTarget, int itsService) {
@@ -385,13 +386,13 @@ public final class FlowShelf {
                     return target;
                 case SERVICE:
                     return service;
-                case 3:
+                case BYTES:
                     return bytes;
-                case 4:
+                case PACKETS:
                     return packets;
                 case BEGAN:
                     return began;
-                case 6:
+                case ENDED:
                     return endedAt;
                 default:
                     return reason;

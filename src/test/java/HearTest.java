@@ -220,6 +220,15 @@ public final class HearTest {
         Checks.due("the places were not heard", 3, x.hear(records));
         x.poke(records, 5, 4);
         Checks.due("bad, but heard before", 0, x.hear(records));
+        x.withdraw(0, 0);
+        Checks.template(x, 0, 0, 3, 3);
+        x.hear(x.announce(0, 0));
+        Checks.finished(x, 0, 20);
+        int full = x.report(0);
+        Checks.due("a report without a byte to spare", 64, x.size(full));
+        bad(x, full, 5, 20);
+        bad(x, full, 5, 18);
+        Checks.due("is read", 19, x.hear(full));
     }
 
     private static void heardPlacesAreHeardOnce() {

@@ -13,6 +13,7 @@ public final class RowsTest {
         aRowIsNotItsOwnOther();
         pairsChangeWithNewRows();
         onlyRowsWithTheFieldsArePaired();
+        aRowWithoutThemTakesNoOther();
         beginsMayBeFarApart();
         otherRefuses();
         countsOfTheExporter();
@@ -142,6 +143,9 @@ public final class RowsTest {
         talk.say(0, 1, 2, 3, 25);
         talk.say(0, 1, 2, 3, 10);
         Checks.due("row 2 began first and takes row 0", "2 -1 0", talk.pairs());
+        talk.say(0, 1, 2, 3, 9);
+        talk.say(0, 1, 2, 3, 11);
+        Checks.due("row 3 began before that", "3 -1 -1 0 -1", talk.pairs());
         Talk late = new Talk();
         late.say(0, 1, 2, 3, 10);
         late.say(0, 2, 1, 3, 100);
@@ -213,6 +217,29 @@ public final class RowsTest {
         }
     }
 
+    private static void aRowWithoutThemTakesNoOther() {
+        for (int missing : new int[] {0, 1, 2, 5}) {
+            FlowShelf x = new FlowShelf();
+            for (int number = 0; number < 2; number++) {
+                for (int f : new int[] {0, 1, 2, 5}) {
+                    if (f != missing || number == 1) {
+                        x.field(0, number, f, 0);
+                    }
+                }
+                x.seal(0, number);
+                x.hear(x.announce(0, number));
+                x.packet(0, 4, 4, 4, 4, true);
+                x.hear(x.report(0));
+            }
+            x.packet(0, 4, 4, 4, 4, true);
+            Checks.due("without field " + missing, -1, x.other(0));
+            Checks.due("with all", -1, x.other(1));
+            x.hear(x.report(0));
+            Checks.due("two with all", 2, x.other(1));
+            Checks.due("still without field " + missing, -1, x.other(0));
+        }
+    }
+
     private static void beginsMayBeFarApart() {
         Talk talk = new Talk();
         talk.say(0, 1, 2, 3, 0);
@@ -267,8 +294,12 @@ public final class RowsTest {
         heard(x, 0, 3, 30, 148);
         heard(x, 1, 0, 70, 0);
         heard(x, 1, 0, 73, 1);
+        x.poke(0, 5, 1);
+        heard(x, 1, 1, 0, 1);
+        heard(x, 1, 1, 2, 2);
+        heard(x, 1, 1, 1, 1);
         Checks.due("of the first one", 148, x.count(0, 5));
-        Checks.due("dropped ones are not lost", 5, x.count(0, 7));
+        Checks.due("dropped ones are not lost", 8, x.count(0, 7));
     }
 
     private static void heard(FlowShelf x, int exporter, int epoch, int place, int lost) {

@@ -66,10 +66,12 @@ public final class TemplateTest {
         x.field(0, 1, 2, 1);
         x.withdraw(0, 1);
         Checks.due("second, of a draft made before", 2, x.seal(0, 1));
+        Checks.state("the draft is empty again", () -> x.seal(0, 1));
+        Checks.due("and takes the fields of all templates before", 1, x.field(0, 1, 0, 1));
+        Checks.due("and takes the fields of all templates before", 2, x.field(0, 1, 2, 1));
         x.field(0, 2, 0, 1);
         Checks.due("another number", 1, x.seal(0, 2));
         x.withdraw(0, 1);
-        x.field(0, 1, 2, 1);
         Checks.due("third", 3, x.seal(0, 1));
         x.field(1, 1, 2, 1);
         Checks.due("another exporter", 1, x.seal(1, 1));

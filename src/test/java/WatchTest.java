@@ -6,6 +6,7 @@ public final class WatchTest {
         packetRefusesWrongParts();
         packetStopsAtTwentyFlows();
         theSeventhFlowPutsOneOut();
+        ofFlowsOfOneTickTheFirstIsPutOut();
         ticksEndIdleFlows();
         ticksEndOldFlows();
         idleGoesBeforeOld();
@@ -113,6 +114,15 @@ public final class WatchTest {
         Checks.due("a known key puts none out", 3, x.count(0, 3));
     }
 
+    private static void ofFlowsOfOneTickTheFirstIsPutOut() {
+        FlowShelf x = new FlowShelf();
+        for (int i = 0; i < 8; i++) {
+            x.packet(0, i, 0, 0, i, false);
+        }
+        Checks.due("the first", "0 0 0 0 1 0 0 4", Checks.flow(x, 0, 0));
+        Checks.due("the second", "1 0 0 1 1 0 0 4", Checks.flow(x, 0, 1));
+    }
+
     private static void ticksEndIdleFlows() {
         FlowShelf x = new FlowShelf();
         x.packet(0, 1, 0, 0, 1, false);
@@ -205,6 +215,13 @@ public final class WatchTest {
         }
         x.flush(0);
         Checks.due("only the sampled ones count", "1 1 1 60 6 0 0 5", Checks.flow(x, 0, 0));
+        x.sampler(0, 2);
+        x.packet(0, 1, 1, 1, 1, false);
+        x.sampler(0, 1);
+        Checks.due("of one", true, x.packet(0, 1, 1, 1, 1, false));
+        Checks.due("of one, each", true, x.packet(0, 1, 1, 1, 1, false));
+        x.sampler(0, 2);
+        x.packet(0, 1, 1, 1, 1, false);
         Checks.argument("sampler 0", () -> x.sampler(0, 0));
         Checks.argument("sampler 10", () -> x.sampler(0, 10));
         Checks.argument("sampler -1", () -> x.sampler(0, -1));
