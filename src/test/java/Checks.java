@@ -1,7 +1,12 @@
 /** Counts and prints every answer that is not the one that is due. */
 final class Checks {
+    /** What is no exporter: the two beside 0 and 1, and those farthest from them. */
+    static final int[] NO_EXPORTER = {-1, 2, Integer.MIN_VALUE, Integer.MAX_VALUE};
+
     private static int done;
     private static int wrong;
+    private static int sentences;
+    private static String sentence = "";
 
     private Checks() {
     }
@@ -14,23 +19,25 @@ final class Checks {
         void run();
     }
 
+    /** The sentence of the document that the checks which follow are for. */
+    static void sentence(String words) {
+        sentences++;
+        sentence = "[" + words + "] ";
+    }
+
     static void due(String what, long want, long got) {
-        done++;
-        if (got != want) {
-            wrong++;
-            System.out.println(what + ": answered " + got + ", due is " + want);
-        }
+        due(what, Long.toString(want), Long.toString(got));
     }
 
     static void due(String what, boolean want, boolean got) {
-        due(what, want ? 1 : 0, got ? 1 : 0);
+        due(what, Boolean.toString(want), Boolean.toString(got));
     }
 
     static void due(String what, String want, String got) {
         done++;
         if (!want.equals(got)) {
             wrong++;
-            System.out.println(what + ": answered " + got + ", due is " + want);
+            System.out.println(sentence + what + ": answered " + got + ", due is " + want);
         }
     }
 
@@ -55,8 +62,15 @@ final class Checks {
             deed.run();
             return "no exception";
         } catch (RuntimeException e) {
-            return e.getClass().getSimpleName();
+            String name = e.getClass().getSimpleName();
+            return isThrownByTheProgram(e) ? name : name + " that no throw statement of the program threw";
         }
+    }
+
+    /** The language's rule 7: a list or an array that refuses an index by itself is a fault, whatever it throws. */
+    private static boolean isThrownByTheProgram(RuntimeException e) {
+        StackTraceElement[] trace = e.getStackTrace();
+        return trace.length > 0 && trace[0].getClassName().matches("FlowShelf(\\$.*)?");
     }
 
     static String bytes(FlowShelf x, int report) {
@@ -114,7 +128,8 @@ final class Checks {
     }
 
     static void close() {
-        System.out.println(wrong == 0 ? done + " answers are as due" : wrong + " of " + done + " are not as due");
+        String of = sentences == 0 ? "" : " for " + sentences + " sentences";
+        System.out.println(wrong == 0 ? done + " answers are as due" + of : wrong + " of " + done + " are not as due");
         if (wrong != 0 || done == 0) {
             System.exit(1);
         }

@@ -1,14 +1,8 @@
 /** Promise 17: hear. */
 public final class HearTest {
     public static void main(String[] args) {
-        hearRefusesUnknownReports();
-        headsAreJudged();
-        templatesAreJudged();
-        recordsAreJudged();
-        samplersAreJudged();
         kindsMayBePoked();
         recordsAreRead();
-        variableRecordsAreJudged();
         badRecordsChangeNothing();
         heardPlacesAreHeardOnce();
         placesAreOfAnExporterAndAnEpoch();
@@ -23,34 +17,6 @@ public final class HearTest {
         theShelfMayBeTooMuch();
         samplersAreNoted();
         Checks.close();
-    }
-
-    /** A report with these bytes: one of exporter 1 of the same size, poked. */
-    private static int raw(FlowShelf x, int... bytes) {
-        if (bytes.length == 5) {
-            int told = x.tell(1);
-            Checks.pokeAll(x, told, bytes);
-            return told;
-        }
-        try {
-            Checks.template(x, 1, 0, 0, 1);
-        } catch (IllegalStateException e) {
-            x.restart(1);
-            Checks.template(x, 1, 0, 0, 1);
-        }
-        Checks.finished(x, 1, bytes.length - 7);
-        int made = x.report(1);
-        Checks.pokeAll(x, made, bytes);
-        return made;
-    }
-
-    private static void hearRefusesUnknownReports() {
-        FlowShelf x = new FlowShelf();
-        Checks.index("report 0", () -> x.hear(0));
-        Checks.index("report -1", () -> x.hear(-1));
-        x.tell(0);
-        x.poke(0, 2, 3);
-        Checks.index("report 1", () -> x.hear(1));
     }
 
     /** Pokes one byte, hears, and puts the byte back. */
@@ -70,106 +36,14 @@ public final class HearTest {
         x.poke(report, i, was);
     }
 
-    private static void headsAreJudged() {
-        FlowShelf x = new FlowShelf();
-        Checks.template(x, 0, 0, 0, 1, 1, 1);
-        int template = x.announce(0, 0);
-        Checks.finished(x, 0, 2);
-        int records = x.report(0);
-        int sampler = x.tell(0);
-        for (int each : new int[] {template, records, sampler}) {
-            bad(x, each, 0, 2);
-            bad(x, each, 0, 255);
-            bad(x, each, 1, 6);
-            bad(x, each, 1, 255);
-            bad(x, each, 2, 3);
-            bad(x, each, 2, 255);
-        }
-        for (int each : new int[] {template, records}) {
-            bad(x, each, 3, 3);
-            bad(x, each, 3, 255);
-            bad(x, each, 4, 0);
-        }
-        good(x, template, 1, 5, 0);
-        good(x, template, 3, 2, 0);
-        good(x, template, 4, 255, 0);
-        good(x, template, 0, 1, 0);
-        good(x, records, 1, 5, 2);
-        Checks.due("rows", 2, x.rows());
-    }
-
-    private static void templatesAreJudged() {
-        FlowShelf x = new FlowShelf();
-        Checks.template(x, 0, 0, 0, 1, 1, 1);
-        int two = x.announce(0, 0);
-        bad(x, two, 5, 0);
-        bad(x, two, 5, 1);
-        bad(x, two, 5, 3);
-        bad(x, two, 5, 255);
-        bad(x, two, 6, 8);
-        bad(x, two, 8, 255);
-        bad(x, two, 6, 1);
-        bad(x, two, 8, 0);
-        bad(x, two, 7, 5);
-        bad(x, two, 9, 255);
-        // A collector takes lengths that no draft would.
-        x.poke(two, 8, 3);
-        good(x, two, 9, 1, 0);
-        Checks.template(x, 0, 1, 0, 0, 1, 0, 2, 0, 3, 0, 4, 0, 5, 0, 6, 0, 7, 0);
-        int eight = x.announce(0, 1);
-        bad(x, eight, 20, 0);
-        Checks.due("eight fields", 0, x.hear(eight));
-        // A records report with as many bytes as a template of nine fields would have.
-        int nine = raw(x, 0, 0, 0, 2, 1, 9, 0, 1, 1, 1, 2, 1, 3, 1, 4, 1, 5, 1, 6, 1, 7, 1, 7, 1);
-        Checks.argument("nine fields", () -> x.hear(nine));
-    }
-
-    private static void recordsAreJudged() {
-        FlowShelf x = new FlowShelf();
-        Checks.template(x, 0, 0, 0, 1);
-        Checks.finished(x, 0, 2);
-        int records = x.report(0);
-        bad(x, records, 5, 0);
-        bad(x, records, 6, 99);
-        bad(x, records, 6, 100);
-        bad(x, records, 6, 255);
-        bad(x, records, 5, 101);
-        good(x, records, 6, 98, 0);
-        Checks.due("on the shelf", 1, x.count(0, 6));
-        Checks.due("no place is lost", 0, x.count(0, 5));
-        // Unread, a report on the shelf may name more records than it can hold.
-        x.poke(records, 1, 1);
-        good(x, records, 5, 100, 0);
-        Checks.due("on the shelf", 2, x.count(0, 6));
-    }
-
-    private static void samplersAreJudged() {
-        FlowShelf x = new FlowShelf();
-        x.tell(0);
-        bad(x, 0, 4, 0);
-        bad(x, 0, 4, 10);
-        bad(x, 0, 4, 255);
-        good(x, 0, 4, 9, 0);
-        Checks.due("noted", 9, x.count(0, 9));
-        Checks.template(x, 0, 0, 0, 1);
-        int longer = x.announce(0, 0);
-        bad(x, longer, 2, 2);
-    }
-
     private static void kindsMayBePoked() {
-        FlowShelf x = new FlowShelf();
-        int sampler = x.tell(0);
-        x.poke(sampler, 3, 1);
-        bad(x, sampler, 2, 0);
-        bad(x, sampler, 2, 1);
-        // A template that is heard as records: one record from place 3 on, of the byte 0 that is left.
-        int template = raw(x, 0, 0, 0, 0, 1, 1, 3, 0);
-        Checks.due("as a template", 0, x.hear(template));
-        x.poke(template, 2, 1);
-        Checks.argument("as records by itself: no byte of what is told", () -> x.hear(template));
-        x.poke(template, 4, 2);
-        Checks.due("as records that wait", 0, x.hear(template));
-        Checks.due("on the shelf", 1, x.count(0, 6));
+        Post p = new Post();
+        p.bad("a sampler as a template", 0, 0, 0, 0, 1);
+        p.bad("a sampler as records", 0, 0, 1, 0, 1);
+        p.hears("one field, 3, of a variable length", 0, 0, 0, 0, 0, 1, 1, 3, 0);
+        p.bad("the same bytes as one record at place 3", 0, 0, 1, 0, 1, 1, 3, 0);
+        p.hears("as a record of another template", 0, 0, 0, 1, 0, 2, 1, 3, 0);
+        Checks.due("on the shelf", 1, p.x.count(0, 6));
     }
 
     private static void recordsAreRead() {
@@ -187,25 +61,6 @@ public final class HearTest {
         Checks.due("unsigned, highest first", "9 -1 -1 " + (255L * 256 * 256 * 256 + 300) + " -1 -1 300 -1 0",
                 Checks.row(x, 0));
         Checks.due("the second", "200 -1 -1 0 -1 -1 300 -1 0", Checks.row(x, 1));
-    }
-
-    private static void variableRecordsAreJudged() {
-        FlowShelf x = new FlowShelf();
-        x.hear(raw(x, 0, 0, 0, 0, 1, 1, 3, 0));
-        int records = raw(x, 0, 0, 1, 0, 1, 1, 0, 4, 1, 2, 3, 4);
-        bad(x, records, 7, 0);
-        bad(x, records, 7, 1);
-        bad(x, records, 7, 3);
-        bad(x, records, 7, 5);
-        bad(x, records, 7, 255);
-        bad(x, records, 5, 2);
-        Checks.due("four bytes", 1, x.hear(records));
-        Checks.due("value", 16909060, x.row(0, 3));
-        // Not as few as can be, but that is not called bad.
-        int longer = raw(x, 0, 0, 1, 0, 1, 2, 1, 2, 0, 7, 1, 8);
-        Checks.due("zeros in front", 2, x.hear(longer));
-        Checks.due("value", 7, x.row(1, 3));
-        Checks.due("value", 8, x.row(2, 3));
     }
 
     private static void badRecordsChangeNothing() {

@@ -3,8 +3,10 @@ import java.util.TreeMap;
 
 /** Long runs of calls, most of them sensible, some wrong, on the program and on the model beside it. */
 public final class ModelTest {
-    private static final int RUNS = 3000;
+    private static final int RUNS = 8000;
+    /** Beyond these an object's answers are free, so no run has more. */
     private static final int CALLS = 512;
+    private static final int STEPS = 400;
 
     /** One letter a chance: of each run, some of these kinds of calls are more usual than others. */
     private static final String USUAL = "pppppppppppptttfseeffffffSSSwRaaarrrTbbkkkkkkkkkkkkhhhhhhhhhhhhhhhhoooooccttvv";
@@ -39,10 +41,10 @@ public final class ModelTest {
             if (run % 3 != 0) {
                 each.open();
             }
-            for (int i = 0; i < CALLS && each.calls < CALLS; i++) {
+            while (each.calls < STEPS && !each.differs) {
                 each.step();
             }
-            each.compareAll();
+            each.lookAround();
             Checks.due("run " + run + each.differences(), false, each.differs);
             if (each.differs) {
                 break;
@@ -192,12 +194,12 @@ public final class ModelTest {
     private void poke() {
         int r = number(made);
         if (random.nextInt(12) == 0) {
-            pokeByte(r, number(program.size(r)), number(256));
+            pokeByte(r, number(model.size(r)), number(256));
             return;
         }
         int[] bounds = {2, 4, 3, 3, random.nextBoolean() ? 3 : 40, 9, 100};
         int[] favourites = {6, 6, 6, 6, 4, 4, 3, 1, 0, random.nextInt(7)};
-        if (program.size(r) > 4 && program.byteOf(r, 2) == 0) {
+        if (model.size(r) > 4 && model.byteOf(r, 2) == 0) {
             favourites = new int[] {0, 1, 3, 4, 4, 4};
         }
         int i = favourites[random.nextInt(favourites.length)];
@@ -210,7 +212,7 @@ public final class ModelTest {
     }
 
     private void ask(int e) {
-        int row = number(program.rows());
+        int row = number(model.rows());
         int f = number(9);
         int what = number(8);
         int value = number(random.nextBoolean() ? 5 : 300);
@@ -223,34 +225,27 @@ public final class ModelTest {
         same("ended", () -> program.ended(e, i, what), () -> model.ended(e, i, what), e, i, what);
     }
 
-    /** The object is used beyond its 512 calls here, but only to look at it. */
-    private void compareAll() {
+    /** All counts, and then this and that of what the run has made, as long as there are calls left. */
+    private void lookAround() {
         for (int k = 0; k < 2 * 10; k++) {
             int e = k / 10;
             int which = k % 10;
             same("count", () -> program.count(e, which), () -> model.count(e, which), e, which);
         }
-        for (int k = 0; k < 2 * 20 * 8; k++) {
-            int e = k / 160;
-            int i = k / 8 % 20;
-            int f = k % 8;
+        while (calls + 6 <= CALLS && !differs) {
+            int e = random.nextInt(2);
+            int i = number(model.count(e, 3));
+            int f = number(8);
+            int r = number(made);
+            int at = number(model.size(r));
+            int row = number(model.rows());
             same("ended", () -> program.ended(e, i, f), () -> model.ended(e, i, f), e, i, f);
-        }
-        for (int k = 0; k < made; k++) {
-            int r = k;
             same("size", () -> program.size(r), () -> model.size(r), r);
-            for (int n = 0; n < program.size(r); n++) {
-                int i = n;
-                same("byteOf", () -> program.byteOf(r, i), () -> model.byteOf(r, i), r, i);
-            }
-        }
-        same("rows", program::rows, model::rows);
-        for (int k = 0; k < program.rows() * 9; k++) {
-            int row = k / 9;
-            int f = k % 9;
+            same("byteOf", () -> program.byteOf(r, at), () -> model.byteOf(r, at), r, at);
             same("row", () -> program.row(row, f), () -> model.row(row, f), row, f);
             same("other", () -> program.other(row), () -> model.other(row), row);
         }
+        same("rows", program::rows, model::rows);
     }
 
     private static Checks.Call done(Checks.Deed deed) {
@@ -267,10 +262,8 @@ public final class ModelTest {
         calls++;
         String got = answer(ours);
         String want = answer(due);
-        if (calls <= CALLS) {
-            SEEN.merge(call + (got.endsWith("Exception") ? " " + got : ""), 1, Integer::sum);
-        }
-        while (program.size(made) >= 0) {
+        SEEN.merge(call + (got.endsWith("Exception") ? " " + got : ""), 1, Integer::sum);
+        while (model.size(made) >= 0) {
             made++;
         }
         told.append(call).append(' ').append(java.util.Arrays.toString(with)).append(" -> ").append(got).append('\n');

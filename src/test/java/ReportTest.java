@@ -6,11 +6,7 @@ public final class ReportTest {
         aReportHoldsSixtyFourBytes();
         variableRecordsAreMeasuredOneByOne();
         theTemplateSealedLastIsUsed();
-        placesEndAtNinetyNine();
-        reportRefuses();
         tellWritesTheSampler();
-        tellRefuses();
-        sizeAndBytesHaveEdges();
         pokeChangesOneByte();
         Checks.close();
     }
@@ -141,50 +137,6 @@ public final class ReportTest {
         return x.byteOf(x.report(0), 3);
     }
 
-    private static void placesEndAtNinetyNine() {
-        FlowShelf x = new FlowShelf();
-        Checks.template(x, 0, 0, 0, 1);
-        for (int i = 0; i < 4; i++) {
-            Checks.finished(x, 0, 20);
-            x.report(0);
-        }
-        Checks.finished(x, 0, 15);
-        x.report(0);
-        Checks.due("written", 95, x.count(0, 4));
-        Checks.finished(x, 0, 6);
-        x.report(0);
-        Checks.due("only five places are left", "0 0 1 0 1 5 95 0 1 2 3 4", Checks.bytes(x, 5));
-        Checks.due("one flow stays", 1, x.count(0, 3));
-        Checks.state("no place left", () -> x.report(0));
-        Checks.due("it stays", "5 0 0 0 1 0 0 3", Checks.flow(x, 0, 0));
-        Checks.template(x, 1, 0, 0, 1);
-        Checks.finished(x, 1, 1);
-        Checks.due("the other has places", 6, x.report(1));
-        x.restart(0);
-        Checks.template(x, 0, 0, 0, 1);
-        Checks.finished(x, 0, 1);
-        Checks.due("the next epoch has places", "0 1 1 0 1 1 0 0", Checks.bytes(x, x.report(0)));
-    }
-
-    private static void reportRefuses() {
-        FlowShelf x = new FlowShelf();
-        Checks.argument("report of 2", () -> x.report(2));
-        Checks.argument("report of -1", () -> x.report(-1));
-        Checks.finished(x, 0, 1);
-        Checks.state("no template", () -> x.report(0));
-        Checks.template(x, 0, 0, 0, 1);
-        Checks.template(x, 1, 0, 0, 1);
-        x.packet(1, 1, 1, 1, 1, false);
-        Checks.state("no flow is ended", () -> x.report(1));
-        for (int i = 0; i < 30; i++) {
-            x.tell(1);
-        }
-        Checks.state("30 reports", () -> x.report(0));
-        Checks.due("the flow stays", 1, x.count(0, 3));
-        Checks.due("nothing was written", 0, x.count(0, 4));
-        Checks.argument("30 reports and report of 2", () -> x.report(2));
-    }
-
     private static void tellWritesTheSampler() {
         FlowShelf x = new FlowShelf();
         Checks.due("number", 0, x.tell(0));
@@ -198,38 +150,6 @@ public final class ReportTest {
         Checks.due("second", "0 0 2 1 7", Checks.bytes(x, 1));
         Checks.due("the other's", "1 0 2 0 1", Checks.bytes(x, 2));
         Checks.due("of the next epoch", "0 1 2 0 9", Checks.bytes(x, 3));
-    }
-
-    private static void tellRefuses() {
-        FlowShelf x = new FlowShelf();
-        Checks.argument("tell of 2", () -> x.tell(2));
-        Checks.argument("tell of -1", () -> x.tell(-1));
-        for (int i = 0; i < 30; i++) {
-            Checks.due("tell", i, x.tell(0));
-        }
-        Checks.state("30 reports", () -> x.tell(0));
-        Checks.state("30 reports for both", () -> x.tell(1));
-        Checks.argument("30 reports and tell of 2", () -> x.tell(2));
-        Checks.due("the last", "0 0 2 29 1", Checks.bytes(x, 29));
-    }
-
-    private static void sizeAndBytesHaveEdges() {
-        FlowShelf x = new FlowShelf();
-        x.tell(1);
-        Checks.template(x, 0, 0, 2, 1);
-        x.announce(0, 0);
-        Checks.due("size", 5, x.size(0));
-        Checks.due("size", 8, x.size(1));
-        Checks.due("size of 2", -1, x.size(2));
-        Checks.due("size of -1", -1, x.size(-1));
-        Checks.due("first byte", 1, x.byteOf(0, 0));
-        Checks.due("last byte", 1, x.byteOf(0, 4));
-        Checks.index("byte 5", () -> x.byteOf(0, 5));
-        Checks.index("byte -1", () -> x.byteOf(0, -1));
-        Checks.index("byte 8 of the other", () -> x.byteOf(1, 8));
-        Checks.index("of report 2", () -> x.byteOf(2, 0));
-        Checks.index("of report -1", () -> x.byteOf(-1, 0));
-        Checks.index("far", () -> x.byteOf(0, Integer.MAX_VALUE));
     }
 
     private static void pokeChangesOneByte() {

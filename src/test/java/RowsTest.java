@@ -2,10 +2,8 @@
 public final class RowsTest {
     public static void main(String[] args) {
         rowsHaveValues();
-        rowRefuses();
         totalsAddUp();
         totalsLeaveOutWhatIsNotThere();
-        totalRefuses();
         pairsAreTheNearest();
         theEarlierChoosesFirst();
         tiesGoToTheLesserRow();
@@ -15,10 +13,8 @@ public final class RowsTest {
         onlyRowsWithTheFieldsArePaired();
         aRowWithoutThemTakesNoOther();
         beginsMayBeFarApart();
-        otherRefuses();
         countsOfTheExporter();
         lostRecordsAreGaps();
-        countRefuses();
         Checks.close();
     }
 
@@ -82,15 +78,6 @@ public final class RowsTest {
         Checks.due("row 2", "4 -1 -1 80 1 -1 -1 5 1", Checks.row(x, 2));
     }
 
-    private static void rowRefuses() {
-        FlowShelf x = threeRows();
-        Checks.index("row 3", () -> x.row(3, 0));
-        Checks.index("row -1", () -> x.row(-1, 0));
-        Checks.index("both wrong", () -> x.row(3, 9));
-        Checks.argument("field 9", () -> x.row(2, 9));
-        Checks.argument("field -1", () -> x.row(2, -1));
-    }
-
     private static void totalsAddUp() {
         FlowShelf x = threeRows();
         Checks.due("bytes of source 4", 110, x.total(1, 0, 4, 3));
@@ -113,16 +100,6 @@ public final class RowsTest {
         Checks.due("large values", 2 * 4294967295L, talk.x.total(0, 2, 7, 0));
         Checks.due("by a large value", 14, talk.x.total(0, 5, 4294967295L, 2));
         Checks.due("which is not -1", 0, talk.x.total(0, 5, -1, 2));
-    }
-
-    private static void totalRefuses() {
-        FlowShelf x = threeRows();
-        Checks.argument("total of 2", () -> x.total(2, 0, 0, 0));
-        Checks.argument("total of -1", () -> x.total(-1, 0, 0, 0));
-        Checks.argument("f 8", () -> x.total(1, 8, 0, 0));
-        Checks.argument("f -1", () -> x.total(1, -1, 0, 0));
-        Checks.argument("what 8", () -> x.total(1, 0, 0, 8));
-        Checks.argument("what -1", () -> x.total(1, 0, 0, -1));
     }
 
     private static void pairsAreTheNearest() {
@@ -250,15 +227,6 @@ public final class RowsTest {
         Checks.due("unsigned", "2 -1 0 4 3", talk.pairs());
     }
 
-    private static void otherRefuses() {
-        FlowShelf x = threeRows();
-        Checks.due("row 2", -1, x.other(2));
-        Checks.index("row 3", () -> x.other(3));
-        Checks.index("row -1", () -> x.other(-1));
-        Checks.index("row 80", () -> x.other(80));
-        Checks.index("of none", () -> new FlowShelf().other(0));
-    }
-
     private static void countsOfTheExporter() {
         FlowShelf x = new FlowShelf();
         x.restart(1);
@@ -308,13 +276,5 @@ public final class RowsTest {
         x.poke(0, 6, place);
         x.hear(0);
         Checks.due("lost with place " + place + " of epoch " + epoch, lost, x.count(exporter, 5));
-    }
-
-    private static void countRefuses() {
-        FlowShelf x = new FlowShelf();
-        Checks.argument("count of 2", () -> x.count(2, 0));
-        Checks.argument("count of -1", () -> x.count(-1, 0));
-        Checks.argument("number 10", () -> x.count(0, 10));
-        Checks.argument("number -1", () -> x.count(0, -1));
     }
 }

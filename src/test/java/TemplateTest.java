@@ -1,47 +1,11 @@
 /** Promises 7 to 11: field, seal, withdraw, restart, announce. */
 public final class TemplateTest {
-    private static final int[] LEAST = {1, 1, 1, 3, 2, 2, 2, 1};
-
     public static void main(String[] args) {
-        fieldsHaveLeastLengths();
-        fieldRefusesWrongNumbers();
         aDraftHasAFieldOnce();
         sealMakesRevisions();
-        sealRefuses();
-        withdrawRefuses();
         restartForgets();
-        restartEndsAtFive();
         announceWritesTheTemplate();
-        announceRefuses();
         Checks.close();
-    }
-
-    private static void fieldsHaveLeastLengths() {
-        for (int f = 0; f < 8; f++) {
-            for (int length = 0; length <= 4; length++) {
-                FlowShelf x = new FlowShelf();
-                int field = f;
-                int its = length;
-                if (length != 0 && length < LEAST[f]) {
-                    Checks.argument("field " + f + " of " + length, () -> x.field(0, 0, field, its));
-                } else {
-                    Checks.due("field " + f + " of " + length, 1, x.field(0, 0, f, length));
-                }
-            }
-        }
-    }
-
-    private static void fieldRefusesWrongNumbers() {
-        FlowShelf x = new FlowShelf();
-        Checks.argument("exporter 2", () -> x.field(2, 0, 0, 1));
-        Checks.argument("exporter -1", () -> x.field(-1, 0, 0, 1));
-        Checks.argument("template 3", () -> x.field(0, 3, 0, 1));
-        Checks.argument("template -1", () -> x.field(0, -1, 0, 1));
-        Checks.argument("field 8", () -> x.field(0, 0, 8, 1));
-        Checks.argument("field -1", () -> x.field(0, 0, -1, 1));
-        Checks.argument("length 5", () -> x.field(0, 0, 0, 5));
-        Checks.argument("length -1", () -> x.field(0, 0, 0, -1));
-        Checks.state("the draft stayed empty", () -> x.seal(0, 0));
     }
 
     private static void aDraftHasAFieldOnce() {
@@ -77,37 +41,6 @@ public final class TemplateTest {
         Checks.due("another exporter", 1, x.seal(1, 1));
     }
 
-    private static void sealRefuses() {
-        FlowShelf x = new FlowShelf();
-        Checks.state("an empty draft", () -> x.seal(0, 0));
-        x.field(0, 0, 0, 1);
-        x.seal(0, 0);
-        x.field(0, 0, 1, 1);
-        Checks.state("one in force", () -> x.seal(0, 0));
-        Checks.due("the draft stays", 2, x.field(0, 0, 0, 1));
-        Checks.argument("seal of 2", () -> x.seal(2, 0));
-        Checks.argument("seal of -1", () -> x.seal(-1, 0));
-        Checks.argument("seal 3", () -> x.seal(0, 3));
-        Checks.argument("seal -1", () -> x.seal(0, -1));
-    }
-
-    private static void withdrawRefuses() {
-        FlowShelf x = new FlowShelf();
-        x.field(0, 0, 0, 1);
-        Checks.state("only a draft", () -> x.withdraw(0, 0));
-        x.seal(0, 0);
-        Checks.state("of another number", () -> x.withdraw(0, 1));
-        Checks.state("of another exporter", () -> x.withdraw(1, 0));
-        x.withdraw(0, 0);
-        Checks.state("twice", () -> x.withdraw(0, 0));
-        Checks.argument("withdraw of 2", () -> x.withdraw(2, 0));
-        Checks.argument("withdraw of -1", () -> x.withdraw(-1, 0));
-        Checks.argument("withdraw 3", () -> x.withdraw(0, 3));
-        Checks.argument("withdraw -1", () -> x.withdraw(0, -1));
-        x.packet(0, 1, 1, 1, 1, true);
-        Checks.state("none to report by", () -> x.report(0));
-    }
-
     private static void restartForgets() {
         FlowShelf x = new FlowShelf();
         x.tick(0, 9);
@@ -138,20 +71,6 @@ public final class TemplateTest {
         x.withdraw(1, 0);
     }
 
-    private static void restartEndsAtFive() {
-        FlowShelf x = new FlowShelf();
-        for (int i = 1; i <= 5; i++) {
-            Checks.due("restart", i, x.restart(1));
-        }
-        Checks.template(x, 1, 0, 0, 1);
-        Checks.state("epoch 5", () -> x.restart(1));
-        Checks.due("epoch", 5, x.count(1, 1));
-        x.withdraw(1, 0);
-        Checks.due("the other's epoch", 0, x.count(0, 1));
-        Checks.argument("restart of 2", () -> x.restart(2));
-        Checks.argument("restart of -1", () -> x.restart(-1));
-    }
-
     private static void announceWritesTheTemplate() {
         FlowShelf x = new FlowShelf();
         x.restart(1);
@@ -166,25 +85,5 @@ public final class TemplateTest {
         Checks.due("bytes", "1 2 0 2 2 8 0 0 1 0 2 0 3 0 4 0 5 0 6 0 7 0", Checks.bytes(x, 1));
         Checks.due("again", 2, x.announce(1, 2));
         Checks.due("the same bytes", Checks.bytes(x, 1), Checks.bytes(x, 2));
-    }
-
-    private static void announceRefuses() {
-        FlowShelf x = new FlowShelf();
-        x.field(0, 1, 0, 1);
-        Checks.state("only a draft", () -> x.announce(0, 1));
-        x.seal(0, 1);
-        Checks.state("of another number", () -> x.announce(0, 0));
-        Checks.state("of another exporter", () -> x.announce(1, 1));
-        Checks.argument("announce of 2", () -> x.announce(2, 1));
-        Checks.argument("announce of -1", () -> x.announce(-1, 1));
-        Checks.argument("announce 3", () -> x.announce(0, 3));
-        Checks.argument("announce -1", () -> x.announce(0, -1));
-        for (int i = 0; i < 30; i++) {
-            Checks.due("announce", i, x.announce(0, 1));
-        }
-        Checks.state("30 reports", () -> x.announce(0, 1));
-        Checks.argument("30 reports and wrong", () -> x.announce(0, 3));
-        x.withdraw(0, 1);
-        Checks.state("withdrawn", () -> x.announce(0, 1));
     }
 }

@@ -1,39 +1,15 @@
 /** Promises 1 to 6: a new object, packet, tick, flush, sampler, ended. */
 public final class WatchTest {
     public static void main(String[] args) {
-        aNewObjectIsEmpty();
         packetsOfOneKeyAreOneFlow();
-        packetRefusesWrongParts();
-        packetStopsAtTwentyFlows();
         theSeventhFlowPutsOneOut();
         ofFlowsOfOneTickTheFirstIsPutOut();
         ticksEndIdleFlows();
         ticksEndOldFlows();
         idleGoesBeforeOld();
-        tickRefusesWrongNumbers();
         flushEndsAllInOrder();
         samplerTakesEveryNth();
-        endedRefusesWrongIndices();
         Checks.close();
-    }
-
-    private static void aNewObjectIsEmpty() {
-        FlowShelf x = new FlowShelf();
-        for (int e = 0; e < 2; e++) {
-            Checks.due("new: counts of " + e, "0 0 0 0 0 0 0 0 0 0", Checks.counts(x, e));
-            int exporter = e;
-            Checks.index("new: ended", () -> x.ended(exporter, 0, 0));
-            Checks.state("new: seal", () -> x.seal(exporter, 0));
-            Checks.state("new: withdraw", () -> x.withdraw(exporter, 0));
-            Checks.state("new: announce", () -> x.announce(exporter, 0));
-            Checks.state("new: report", () -> x.report(exporter));
-            Checks.due("new: first packet", true, x.packet(e, 1, 1, 1, 1, false));
-            Checks.due("new: sampler of 1", true, x.packet(e, 1, 1, 1, 1, false));
-        }
-        Checks.due("new: rows", 0, x.rows());
-        Checks.due("new: size", -1, x.size(0));
-        Checks.index("new: hear", () -> x.hear(0));
-        Checks.due("new: total", 0, x.total(0, 0, 0, 0));
     }
 
     private static void packetsOfOneKeyAreOneFlow() {
@@ -54,44 +30,6 @@ public final class WatchTest {
         Checks.due("the other exporter's flow", "255 0 7 8 1 0 0 3", Checks.flow(x, 1, 0));
         x.packet(0, 255, 0, 7, 1, true);
         Checks.due("a finished key begins anew", "255 0 7 1 1 8 8 3", Checks.flow(x, 0, 1));
-    }
-
-    private static void packetRefusesWrongParts() {
-        FlowShelf x = new FlowShelf();
-        Checks.argument("exporter -1", () -> x.packet(-1, 0, 0, 0, 0, false));
-        Checks.argument("exporter 2", () -> x.packet(2, 0, 0, 0, 0, false));
-        Checks.argument("source -1", () -> x.packet(0, -1, 0, 0, 0, false));
-        Checks.argument("source 256", () -> x.packet(0, 256, 0, 0, 0, false));
-        Checks.argument("target -1", () -> x.packet(0, 0, -1, 0, 0, false));
-        Checks.argument("target 256", () -> x.packet(0, 0, 256, 0, 0, false));
-        Checks.argument("service -1", () -> x.packet(0, 0, 0, -1, 0, false));
-        Checks.argument("service 256", () -> x.packet(0, 0, 0, 256, 0, false));
-        Checks.argument("bytes -1", () -> x.packet(0, 0, 0, 0, -1, false));
-        Checks.argument("bytes 10000", () -> x.packet(0, 0, 0, 0, 10000, false));
-        Checks.due("no flow of a refused packet", 0, x.count(0, 2));
-        x.sampler(0, 2);
-        Checks.argument("bytes 10000 under a sampler", () -> x.packet(0, 0, 0, 0, 10000, false));
-        Checks.due("a refused packet does not count", true, x.packet(0, 0, 0, 0, 0, false));
-        Checks.argument("not sampled and wrong", () -> x.packet(0, 0, 0, 0, 10000, false));
-        Checks.due("the edges", true, new FlowShelf().packet(1, 255, 255, 255, 9999, true));
-    }
-
-    private static void packetStopsAtTwentyFlows() {
-        FlowShelf x = new FlowShelf();
-        Checks.finished(x, 0, 17);
-        x.packet(0, 1, 1, 1, 1, false);
-        x.packet(0, 2, 1, 1, 1, false);
-        x.sampler(0, 3);
-        Checks.due("with 19", true, x.packet(0, 3, 1, 1, 1, false));
-        Checks.state("with 20, of a known key", () -> x.packet(0, 3, 1, 1, 1, false));
-        Checks.state("with 20, not sampled", () -> x.packet(0, 9, 1, 1, 1, false));
-        Checks.argument("with 20, wrong", () -> x.packet(0, 9, 1, 256, 1, false));
-        Checks.due("the other exporter", true, x.packet(1, 3, 1, 1, 1, false));
-        Checks.template(x, 0, 0, 0, 1);
-        x.report(0);
-        Checks.due("the counter stayed 1", false, x.packet(0, 3, 1, 1, 1, false));
-        Checks.due("the counter is 2", false, x.packet(0, 3, 1, 1, 1, false));
-        Checks.due("the counter is 0", true, x.packet(0, 3, 1, 1, 1, false));
     }
 
     private static void theSeventhFlowPutsOneOut() {
@@ -172,16 +110,6 @@ public final class WatchTest {
         Checks.due("in the cache's order", "3 0 0 1 1 45 60 1", Checks.flow(x, 0, 2));
     }
 
-    private static void tickRefusesWrongNumbers() {
-        FlowShelf x = new FlowShelf();
-        Checks.argument("tick of 2", () -> x.tick(2, 1));
-        Checks.argument("tick of -1", () -> x.tick(-1, 1));
-        Checks.argument("0 ticks", () -> x.tick(0, 0));
-        Checks.argument("-1 ticks", () -> x.tick(0, -1));
-        Checks.argument("101 ticks", () -> x.tick(0, 101));
-        Checks.due("no tick went", 0, x.count(0, 0));
-    }
-
     private static void flushEndsAllInOrder() {
         FlowShelf x = new FlowShelf();
         Checks.due("nothing to flush", 0, x.flush(0));
@@ -228,18 +156,5 @@ public final class WatchTest {
         Checks.argument("sampler of 2", () -> x.sampler(2, 1));
         Checks.argument("sampler of -1", () -> x.sampler(-1, 1));
         Checks.due("a refused one changes nothing", false, x.packet(0, 1, 1, 1, 1, false));
-    }
-
-    private static void endedRefusesWrongIndices() {
-        FlowShelf x = new FlowShelf();
-        Checks.finished(x, 0, 1);
-        Checks.argument("ended of 2", () -> x.ended(2, 0, 0));
-        Checks.argument("ended of -1", () -> x.ended(-1, 0, 0));
-        Checks.argument("ended, field 8", () -> x.ended(0, 0, 8));
-        Checks.argument("ended, field -1", () -> x.ended(0, 0, -1));
-        Checks.argument("ended, neither", () -> x.ended(0, 1, 8));
-        Checks.index("ended 1 of 1", () -> x.ended(0, 1, 7));
-        Checks.index("ended -1", () -> x.ended(0, -1, 0));
-        Checks.index("ended of the other", () -> x.ended(1, 0, 0));
     }
 }
