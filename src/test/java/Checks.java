@@ -3,6 +3,8 @@ final class Checks {
     /** What is no exporter: the two beside 0 and 1, and those farthest from them. */
     static final int[] NO_EXPORTER = {-1, 2, Integer.MIN_VALUE, Integer.MAX_VALUE};
 
+    private static final String NOTHING = "no exception";
+
     private static int done;
     private static int wrong;
     private static int sentences;
@@ -41,6 +43,13 @@ final class Checks {
         }
     }
 
+    /** Of a call that is not to throw: an exception counts as a wrong answer, and the test goes on. */
+    static void answers(String what, long want, Call call) {
+        long[] got = new long[1];
+        String thrown = outcome(() -> got[0] = call.answer());
+        due(what, Long.toString(want), thrown.equals(NOTHING) ? Long.toString(got[0]) : thrown);
+    }
+
     static void argument(String what, Deed deed) {
         due(what, "IllegalArgumentException", outcome(deed));
     }
@@ -60,7 +69,7 @@ final class Checks {
     private static String outcome(Deed deed) {
         try {
             deed.run();
-            return "no exception";
+            return NOTHING;
         } catch (RuntimeException e) {
             String name = e.getClass().getSimpleName();
             return isThrownByTheProgram(e) ? name : name + " that no throw statement of the program threw";

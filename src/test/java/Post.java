@@ -55,13 +55,13 @@ final class Post {
 
     void hears(String what, int rows, int... bytes) {
         int number = with(bytes);
-        Checks.due(what, rows, x.hear(number));
+        Checks.answers(what, rows, () -> x.hear(number));
     }
 
     void nothingOf(String what, int... bytes) {
         int number = with(bytes);
         String before = state();
-        Checks.due(what, 0, x.hear(number));
+        Checks.answers(what, 0, () -> x.hear(number));
         Checks.due(what + ": nothing happens", before, state());
     }
 

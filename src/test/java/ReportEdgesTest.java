@@ -256,8 +256,16 @@ public final class ReportEdgesTest {
         x.withdraw(0, 2);
         x.seal(0, 2);
         Checks.due("sealed once more", "2 2", templateUsed(x));
-        x.withdraw(0, 2);
-        Checks.due("the one before again", "1 1", templateUsed(x));
+        Checks.template(x, 0, 0, 0, 1);
+        x.withdraw(0, 0);
+        Checks.template(x, 0, 0, 0, 1);
+        Checks.due("of the greatest revision", "0 3", templateUsed(x));
+        x.withdraw(0, 1);
+        Checks.template(x, 0, 1, 0, 1);
+        Checks.due("of a lesser revision, but sealed last", "1 2", templateUsed(x));
+        x.withdraw(0, 1);
+        x.withdraw(0, 0);
+        Checks.due("the one that is left", "2 2", templateUsed(x));
     }
 
     private static String templateUsed(FlowShelf x) {
