@@ -45,9 +45,13 @@ final class Checks {
 
     /** Of a call that is not to throw: an exception counts as a wrong answer, and the test goes on. */
     static void answers(String what, long want, Call call) {
+        due(what, Long.toString(want), answerOrException(call));
+    }
+
+    static String answerOrException(Call call) {
         long[] got = new long[1];
         String thrown = outcome(() -> got[0] = call.answer());
-        due(what, Long.toString(want), thrown.equals(NOTHING) ? Long.toString(got[0]) : thrown);
+        return thrown.equals(NOTHING) ? Long.toString(got[0]) : thrown;
     }
 
     static void argument(String what, Deed deed) {
@@ -72,14 +76,17 @@ final class Checks {
             return NOTHING;
         } catch (RuntimeException e) {
             String name = e.getClass().getSimpleName();
-            return isThrownByTheProgram(e) ? name : name + " that no throw statement of the program threw";
+            return isThrownByTheProgram(e) ? name : name + " that no throw statement threw";
         }
     }
 
-    /** The language's rule 7: a list or an array that refuses an index by itself is a fault, whatever it throws. */
+    /**
+     * The language's rule 7: a list or an array that refuses an index by itself is a fault, whatever it throws. The
+     * model beside the program is held to it as well.
+     */
     private static boolean isThrownByTheProgram(RuntimeException e) {
         StackTraceElement[] trace = e.getStackTrace();
-        return trace.length > 0 && trace[0].getClassName().matches("FlowShelf(\\$.*)?");
+        return trace.length > 0 && trace[0].getClassName().matches("(FlowShelf|Model)(\\$.*)?");
     }
 
     static String bytes(FlowShelf x, int report) {

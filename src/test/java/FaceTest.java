@@ -2,32 +2,33 @@ import java.lang.reflect.Constructor;
 import java.lang.reflect.Field;
 import java.lang.reflect.Method;
 import java.lang.reflect.Modifier;
+import java.util.List;
 import java.util.TreeSet;
 
 /** The public face is the document's, and nothing else of the class can be seen. */
 public final class FaceTest {
     private static final String[] FACE = {
-        "boolean packet(int, int, int, int, int, boolean)",
-        "int tick(int, int)",
-        "int flush(int)",
-        "void sampler(int, int)",
-        "int ended(int, int, int)",
-        "int field(int, int, int, int)",
-        "int seal(int, int)",
-        "void withdraw(int, int)",
-        "int restart(int)",
-        "int announce(int, int)",
-        "int report(int)",
-        "int tell(int)",
+        "boolean packet(int, int, int, int, int, boolean) throws IllegalArgumentException, IllegalStateException",
+        "int tick(int, int) throws IllegalArgumentException",
+        "int flush(int) throws IllegalArgumentException",
+        "void sampler(int, int) throws IllegalArgumentException",
+        "int ended(int, int, int) throws IllegalArgumentException, IndexOutOfBoundsException",
+        "int field(int, int, int, int) throws IllegalArgumentException, IllegalStateException",
+        "int seal(int, int) throws IllegalArgumentException, IllegalStateException",
+        "void withdraw(int, int) throws IllegalArgumentException, IllegalStateException",
+        "int restart(int) throws IllegalArgumentException, IllegalStateException",
+        "int announce(int, int) throws IllegalArgumentException, IllegalStateException",
+        "int report(int) throws IllegalArgumentException, IllegalStateException",
+        "int tell(int) throws IllegalArgumentException, IllegalStateException",
         "int size(int)",
-        "int byteOf(int, int)",
-        "void poke(int, int, int)",
-        "int hear(int)",
+        "int byteOf(int, int) throws IndexOutOfBoundsException",
+        "void poke(int, int, int) throws IndexOutOfBoundsException, IllegalArgumentException",
+        "int hear(int) throws IndexOutOfBoundsException, IllegalArgumentException, UnsupportedOperationException",
         "int rows()",
-        "long row(int, int)",
-        "long total(int, int, long, int)",
-        "int other(int)",
-        "int count(int, int)",
+        "long row(int, int) throws IndexOutOfBoundsException, IllegalArgumentException",
+        "long total(int, int, long, int) throws IllegalArgumentException",
+        "int other(int) throws IndexOutOfBoundsException",
+        "int count(int, int) throws IllegalArgumentException",
     };
 
     public static void main(String[] args) {
@@ -39,7 +40,7 @@ public final class FaceTest {
                 names.add(each.getName());
             }
         }
-        Checks.due("public methods", String.join("; ", new TreeSet<>(java.util.List.of(FACE))), String.join("; ", seen));
+        Checks.due("public methods", String.join("; ", new TreeSet<>(List.of(FACE))), String.join("; ", seen));
         for (Method each : FlowShelf.class.getDeclaredMethods()) {
             if (!Modifier.isPublic(each.getModifiers())) {
                 hidden(each.getName(), each.getModifiers());
@@ -72,6 +73,10 @@ public final class FaceTest {
         for (int i = 0; i < each.getParameterTypes().length; i++) {
             text.append(i == 0 ? "" : ", ").append(each.getParameterTypes()[i].getName());
         }
-        return text.append(')').toString();
+        text.append(')');
+        for (int i = 0; i < each.getExceptionTypes().length; i++) {
+            text.append(i == 0 ? " throws " : ", ").append(each.getExceptionTypes()[i].getSimpleName());
+        }
+        return text.toString();
     }
 }

@@ -260,8 +260,8 @@ public final class ModelTest {
             return;
         }
         calls++;
-        String got = answer(ours);
-        String want = answer(due);
+        String got = Checks.answerOrException(ours);
+        String want = Checks.answerOrException(due);
         SEEN.merge(call + (got.endsWith("Exception") ? " " + got : ""), 1, Integer::sum);
         while (model.size(made) >= 0) {
             made++;
@@ -270,14 +270,6 @@ public final class ModelTest {
         if (!got.equals(want)) {
             told.append("due is ").append(want).append('\n');
             differs = true;
-        }
-    }
-
-    private static String answer(Checks.Call call) {
-        try {
-            return Long.toString(call.answer());
-        } catch (RuntimeException e) {
-            return e.getClass().getSimpleName();
         }
     }
 }
