@@ -184,8 +184,8 @@ public final class LanguageTest extends TreePathScanner<Void, Void> {
         Set<Modifier> flags = tree.getModifiers().getFlags();
         boolean isOuter = around == unit;
         rule(2, isOuter || around == unit.getTypeDecls().get(0), tree.getSimpleName() + " stands in the class", tree);
-        Set<Modifier> due = Set.of(isOuter ? Modifier.PUBLIC : Modifier.PRIVATE, isOuter ? Modifier.FINAL : Modifier.STATIC);
-        rule(1, flags.containsAll(due), tree.getSimpleName() + " is " + flags, tree);
+        rule(1, flags.contains(isOuter ? Modifier.PUBLIC : Modifier.PRIVATE)
+                && flags.contains(isOuter ? Modifier.FINAL : Modifier.STATIC), tree.getSimpleName() + " " + flags, tree);
         int fields = 0;
         for (Tree each : tree.getMembers()) {
             rule(5, !(each instanceof BlockTree), "a block of " + tree.getSimpleName(), each);
