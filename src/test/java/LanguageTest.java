@@ -42,6 +42,9 @@ import javax.tools.ToolProvider;
  */
 public final class LanguageTest extends TreePathScanner<Void, Void> {
     private static final String PROGRAM = "src/main/java/FlowShelf.java";
+    /** Without the last one, two written texts with a + between them would be one text in the tree. */
+    private static final List<String> OPTIONS =
+            List.of("--release", "17", "-proc:none", "-XDallowStringFolding=false");
 
     private static final Set<Tree.Kind> ALLOWED_KINDS = EnumSet.of(Tree.Kind.COMPILATION_UNIT, Tree.Kind.IMPORT,
             Tree.Kind.CLASS, Tree.Kind.METHOD, Tree.Kind.VARIABLE, Tree.Kind.MODIFIERS, Tree.Kind.BLOCK,
@@ -91,8 +94,8 @@ public final class LanguageTest extends TreePathScanner<Void, Void> {
     public static void main(String[] args) throws IOException {
         JavaCompiler compiler = ToolProvider.getSystemJavaCompiler();
         try (StandardJavaFileManager files = compiler.getStandardFileManager(null, null, null)) {
-            JavacTask task = (JavacTask) compiler.getTask(null, files, null, List.of("--release", "17", "-proc:none"),
-                    null, files.getJavaFileObjects(PROGRAM));
+            JavacTask task = (JavacTask) compiler.getTask(null, files, null, OPTIONS, null,
+                    files.getJavaFileObjects(PROGRAM));
             for (CompilationUnitTree unit : task.parse()) {
                 task.analyze();
                 new LanguageTest(unit, Trees.instance(task)).check();
